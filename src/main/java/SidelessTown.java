@@ -302,8 +302,8 @@ public final class SidelessTown {
         if (!told.has(k) || !bit(what)) {
             return BAD;
         }
-        asks.begin();
-        return what == 0 ? asks.sizeOf(k) : asks.markOf(k);
+        asks.begin(k);
+        return what == 0 ? asks.sizeOfAsked() : asks.markOfAsked();
     }
 
     public int trace(int i) {
@@ -698,7 +698,11 @@ public final class SidelessTown {
             boolean tooLong = sort == NUMBER && bytes > MOST_FIGURES;
             put(starts, tokens, start);
             put(sorts, tokens, tooLong ? BROKEN : sort);
-            put(values, tokens, sort == NAME ? nameOf(start, bytes) : numberOf(start, bytes));
+            if (sort == NAME) {
+                put(values, tokens, nameOf(start, bytes));
+            } else {
+                put(values, tokens, sort == NUMBER ? numberOf(start, bytes) : UNKNOWN);
+            }
             tokens++;
         }
 
@@ -974,7 +978,7 @@ public final class SidelessTown {
         private final Town town;
         private int place, from;
         private boolean handed, raw;
-        /** What a hand adds to a place in the order as the town has it. */
+        /** How many streets further on, in the order as the town has it, a hand leads. */
         private int side;
 
         private Walker(Town town) {
@@ -1038,13 +1042,11 @@ public final class SidelessTown {
 
     /** Where the saying leads one walker, or two. */
     private static final class Walks {
-        private final Town town;
         private final Saying saying;
         private final Walker one;
         private final Walker two;
 
         private Walks(Town town, Saying saying) {
-            this.town = town;
             this.saying = saying;
             one = new Walker(town);
             two = new Walker(town);
@@ -1093,9 +1095,12 @@ public final class SidelessTown {
         }
 
         int meeting(int a, int b) {
+            if (a == b) {
+                return 0;
+            }
             one.start(a, false, false);
             two.start(b, false, false);
-            for (int k = 0; k < saying.length() && one.place() != two.place(); k++) {
+            for (int k = 0; k < saying.length(); k++) {
                 if (!one.goBy(saying.wordAt(k)) || !two.goBy(saying.wordAt(k))) {
                     return NONE;
                 }
@@ -1103,7 +1108,7 @@ public final class SidelessTown {
                     return k + 1;
                 }
             }
-            return a == b ? 0 : NONE;
+            return NONE;
         }
     }
 
@@ -1355,7 +1360,10 @@ public final class SidelessTown {
                 return;
             }
             fill(on, NONE);
-            anyImage = canFinish(-1, 0);
+            anyImage = false;
+            for (int t = 0; t < town.corners(); t++) {
+                anyImage = anyImage || canLay(0, t, -1, 0);
+            }
             for (int c = 0; c < town.corners(); c++) {
                 put(on, c, c);
             }
@@ -1364,7 +1372,7 @@ public final class SidelessTown {
                 put(on, c, NONE);
                 int goals = 0;
                 for (int t = 0; t < town.corners(); t++) {
-                    goals += canLay(1, c, t, c + 1) ? 1 : 0;
+                    goals += canLay(c, t, 1, 0) ? 1 : 0;
                 }
                 put(block, c, goals * at(block, c + 1));
             }
@@ -1383,7 +1391,7 @@ public final class SidelessTown {
             int rest = i;
             for (int c = 0; c <= corner && c < town.corners(); c++) {
                 for (int t = 0; t < town.corners() && at(on, c) == NONE; t++) {
-                    if (canLay(round, c, t, c + 1)) {
+                    if (canLay(c, t, round, 0)) {
                         if (rest < at(block, c + 1)) {
                             put(on, c, t);
                         } else {
@@ -1398,41 +1406,52 @@ public final class SidelessTown {
         int leastMovedByAllImages() {
             fill(on, NONE);
             for (int c = 0; anyImage && c < town.corners(); c++) {
-                if (!canLay(-1, c, c, 0)) {
+                if (!canLay(c, c, -1, 0)) {
                     return c;
                 }
             }
             return NONE;
         }
 
-        /** Whether a corner can be laid on another so that those from next on can be laid, too. All is left as it was. */
-        private boolean canLay(int round, int corner, int t, int next) {
+        /** Whether a corner can be laid on another so that all the others can be laid, too; nothing is laid by it. */
+        private boolean canLay(int corner, int t, int round, int depth) {
             if (!fits(corner, t)) {
                 return false;
             }
             put(on, corner, t);
-            boolean can = canFinish(round, next);
+            boolean can = ordersAgree(round) && canLayRest(round, depth + 1);
             put(on, corner, NONE);
             return can;
         }
 
-        /** Calls itself for the next corner, and not behind the last. */
-        private boolean canFinish(int round, int corner) {
-            if (corner >= town.corners()) {
-                return ordersAgree(round);
+        /** As each round of calls lays one corner more, the depth stays below the number of corners. */
+        private boolean canLayRest(int round, int depth) {
+            int corner = nextToLay();
+            if (corner == NONE) {
+                return true;
             }
-            if (at(on, corner) != NONE) {
-                return canFinish(round, corner + 1);
-            }
-            boolean can = false;
-            for (int t = 0; t < town.corners() && !can; t++) {
-                if (fits(corner, t)) {
-                    put(on, corner, t);
-                    can = canFinish(round, corner + 1);
-                    put(on, corner, NONE);
+            for (int t = 0; t < town.corners() && depth <= Town.MOST; t++) {
+                if (canLay(corner, t, round, depth)) {
+                    return true;
                 }
             }
-            return can;
+            return false;
+        }
+
+        /** A corner that is joined to one that is laid goes first: there the order leaves one place at most. */
+        private int nextToLay() {
+            int least = NONE;
+            for (int c = town.corners() - 1; c >= 0; c--) {
+                if (at(on, c) == NONE) {
+                    least = c;
+                    for (int i = 0; i < town.streetsAt(c); i++) {
+                        if (at(on, town.neighbour(c, i)) != NONE) {
+                            return c;
+                        }
+                    }
+                }
+            }
+            return least;
         }
 
         private boolean fits(int corner, int t) {
@@ -1449,11 +1468,17 @@ public final class SidelessTown {
             return true;
         }
 
+        /** Whether about each laid corner those that are laid lie as far round from the first of them as they should. */
         private boolean ordersAgree(int round) {
             for (int c = 0; c < town.corners(); c++) {
-                int first = at(on, town.neighbour(c, 0));
-                for (int i = 1; i < town.streetsAt(c); i++) {
-                    if (at(on, town.neighbour(c, i)) != town.roundFrom(at(on, c), first, round * i)) {
+                int first = NONE;
+                for (int i = 0; i < town.streetsAt(c) && at(on, c) != NONE; i++) {
+                    int there = at(on, town.neighbour(c, i));
+                    if (there != NONE && first == NONE) {
+                        first = i;
+                    }
+                    int firstThere = at(on, town.neighbour(c, first));
+                    if (there != NONE && there != town.roundFrom(at(on, c), firstThere, round * (i - first))) {
                         return false;
                     }
                 }
@@ -1463,13 +1488,14 @@ public final class SidelessTown {
     }
 
     /**
-     * What is asked of the words of the saying. Bodies are named by their numbers; one that is told for a kind and
+     * What is asked of a word of the saying. Bodies are named by their numbers; one that is told for a kind and
      * asks on calls what begins for that kind outright, so that no ask can come round to itself.
      */
     private static final class Asks {
         private static final int MOST = 16;
 
         private final Saying saying;
+        private int asked, word, kind;
         private final int[] numbers = new int[MOST];
         private int many;
 
@@ -1481,83 +1507,85 @@ public final class SidelessTown {
             return within(i, many) ? at(numbers, i) : NONE;
         }
 
-        void begin() {
+        void begin(int k) {
+            asked = k;
+            word = saying.wordAt(k);
+            kind = saying.kindAt(k);
             many = 0;
         }
 
         private void leave(int number) {
-            if (many < MOST) {
-                put(numbers, many, number);
+            if (many >= 0 && many < numbers.length) {
+                numbers[many] = number;
                 many++;
             }
         }
 
-        int sizeOf(int k) {
-            switch (saying.kindAt(k)) {
-                case SLOPE: return body11(k);
-                case TURNED: return body12(k);
-                case HANDED: return body13(k);
-                case TAKEN: return body14(k);
-                default: return body10(k);
+        int sizeOfAsked() {
+            switch (kind) {
+                case SLOPE: return body11();
+                case TURNED: return body12();
+                case HANDED: return body13();
+                case TAKEN: return body14();
+                default: return body10();
             }
         }
 
-        int markOf(int k) {
-            switch (saying.kindAt(k)) {
-                case MARKED: return body21(k);
-                case HANDED: return body22(k);
-                case TAKEN: return body23(k);
-                default: return body20(k);
+        int markOfAsked() {
+            switch (kind) {
+                case MARKED: return body21();
+                case HANDED: return body22();
+                case TAKEN: return body23();
+                default: return body20();
             }
         }
 
-        private int body10(int k) {
+        private int body10() {
             leave(10);
-            return k;
+            return asked;
         }
 
-        private int body11(int k) {
+        private int body11() {
             leave(11);
-            int lent = body10(k);
-            return lent + body20(k);
+            int lent = body10();
+            return lent + body20();
         }
 
-        private int body12(int k) {
+        private int body12() {
             leave(12);
-            int lent = body10(k);
-            return lent - (saying.kindAt(k) == HANDED ? body22(k) : body20(k));
+            int lent = body10();
+            return lent - (kind == HANDED ? body22() : body20());
         }
 
-        private int body13(int k) {
+        private int body13() {
             leave(13);
-            return 2 * body12(k);
+            return 2 * body12();
         }
 
-        private int body14(int k) {
+        private int body14() {
             leave(14);
-            return -body10(k);
+            return -body10();
         }
 
-        private int body20(int k) {
+        private int body20() {
             leave(20);
-            int word = saying.wordAt(k);
             return word >= MARKS ? MARK : word;
         }
 
-        private int body21(int k) {
+        private int body21() {
             leave(21);
-            return body20(k) + 10 * (saying.wordAt(k) - MARKS);
+            return body20() + 10 * (word - MARKS);
         }
 
-        private int body22(int k) {
+        private int body22() {
             leave(22);
-            return body20(k) + 100;
+            return body20() + 100;
         }
 
-        private int body23(int k) {
+        private int body23() {
             leave(23);
-            int lent = body20(k);
-            return lent + body14(k);
+            int lent = body20();
+            return lent + body14();
         }
     }
 }
