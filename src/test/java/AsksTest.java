@@ -8,6 +8,8 @@ final class AsksTest {
         kinds();
         asKinds();
         asks();
+        asksByPlace();
+        asksOfOthers();
         trace();
         Check.end();
     }
@@ -110,6 +112,54 @@ final class AsksTest {
         Check.due("ask(-1, 0)", x.ask(-1, 0), BAD);
         Check.due("ask(0, 2)", x.ask(0, 2), BAD);
         Check.due("ask(0, -1)", x.ask(0, -1), BAD);
+    }
+
+    /** The place in the saying is what 10 gives, from the first word to the twelfth. */
+    private static void asksByPlace() {
+        String[] words = {"up ", "down ", "mark 7 ", "on ", "back ", "hand ", "other ", "take "};
+        for (int word = 0; word < words.length; word++) {
+            SidelessTown x = new SidelessTown();
+            Check.say(x, words[word].repeat(12) + ";");
+            for (int k = 0; k < 12; k++) {
+                int[] sizes = {k, k + 1, k, k - 3, k - 4, 2 * (k - 105), 2 * (k - 106), -k};
+                int[] marks = {0, 1, 72, 3, 4, 105, 106, 7 - k};
+                Check.due("ask(" + k + ", 0) of " + words[word], x.ask(k, 0), sizes[word]);
+                Check.due("ask(" + k + ", 1) of " + words[word], x.ask(k, 1), marks[word]);
+            }
+            Check.due("ask(12, 0) of " + words[word], x.ask(12, 0), BAD);
+        }
+        SidelessTown x = new SidelessTown();
+        for (int m = 0; m <= 9; m++) {
+            Check.say(x, "mark " + m + ";");
+            Check.due("ask(0, 1) of mark " + m, x.ask(0, 1), 2 + 10 * m);
+            Check.due("ask(0, 0) of mark " + m, x.ask(0, 0), 0);
+        }
+    }
+
+    /** A saying that was made of a row, or kept by an image, is asked as one that was read. */
+    private static void asksOfOthers() {
+        SidelessTown x = Check.withTown("corner 1 1;corner 2 2;street 0 1;");
+        x.row(0, 0, 3);
+        x.set(0, 0, 24);
+        x.set(0, 1, 5);
+        x.set(0, 2, 7);
+        x.words(0, 0, 3);
+        x.image(0);
+        Check.say(x, "up;");
+        asked(x, 0, 0, 0, 11, 10, 20);
+        Check.due("as(0, 4) of up", x.as(0, 4), KIND);
+        Check.due("kind(1) behind its end", x.kind(1), BAD);
+        x.restore(0);
+        Check.due("the trace stays behind restore", x.trace(0), 11);
+        asked(x, 0, 1, 42, 21, 20);
+        asked(x, 1, 0, 2 * (1 - 105), 13, 12, 10, 22, 20);
+        asked(x, 2, 1, 7 - 2, 23, 20, 14, 10);
+        Check.due("as(0, 2) of mark 4", x.as(0, 2), 24);
+        Check.due("as(1, 3) of hand", x.as(1, 3), 5);
+        Check.due("as(2, 0) of take", x.as(2, 0), 7);
+        Check.due("as(2, 3) of take", x.as(2, 3), KIND);
+        Check.due("KIND stays behind BAD", x.as(3, 0), BAD);
+        Check.due("status()", x.status(), 3);
     }
 
     private static void trace() {

@@ -33,6 +33,10 @@ final class FaceTest {
                     Modifier.isPublic(m.getModifiers()) && !Modifier.isStatic(m.getModifiers()));
             }
         }
+        for (Method m : type.getDeclaredMethods()) {
+            Check.holds(m + " bears no public name",
+                Modifier.isPublic(m.getModifiers()) || !publicNames.contains(m.getName()));
+        }
         List<String> want = new ArrayList<>(List.of(METHODS));
         Collections.sort(want);
         Collections.sort(open);

@@ -5,10 +5,14 @@ final class RowsTest {
     public static void main(String[] args) {
         newObject();
         row();
+        rowAnew();
         set();
         lanes();
+        lanesEnds();
         copy();
         copyOntoItself();
+        copyOfMost();
+        copyInEachLane();
         drop();
         status();
         Check.end();
@@ -53,6 +57,52 @@ final class RowsTest {
         Check.due("word(0)", x.word(0), 0);
     }
 
+    /** What item i of a row is, where that is the number of a word; the saying is another behind it. */
+    private static int item(SidelessTown x, int row, int i) {
+        return x.words(row, i, 1) == 1 ? x.word(0) : -1;
+    }
+
+    private static void rowAnew() {
+        SidelessTown x = new SidelessTown();
+        for (int row = 0; row < 8; row++) {
+            Check.due("row " + row + " is missing at first", x.drop(row), NULL);
+        }
+        for (int lane = 0; lane <= 2; lane++) {
+            x.row(1, lane, 40);
+            for (int i = 0; i < 40; i++) {
+                x.set(1, i, 27);
+            }
+            Check.due("row(1, " + lane + ", 40)", x.row(1, lane, 40), 40);
+            for (int i = 0; i < 40; i++) {
+                Check.due("lane " + lane + ", 0 at first: item " + i, item(x, 1, i), 0);
+            }
+        }
+        x.row(1, 0, 5);
+        Check.due("a byte", x.set(1, 0, 300), 44);
+        x.row(1, 2, 5);
+        Check.due("an int, in place of it", x.set(1, 0, 300), 300);
+        x.row(1, 1, 1);
+        Check.due("a short, in place of it", x.set(1, 0, 70000), 4464);
+        Check.due("fewer items, in place of them", x.set(1, 1, 0), PLACE);
+        Check.due("one row all the while", x.count(0), 1);
+        x.row(1, 1, 0);
+        Check.due("a row of no items has no item 0", x.set(1, 0, 0), PLACE);
+        Check.due("a row of no items is one", x.count(0), 1);
+        Check.due("row(1, 1, 3)", x.row(1, 1, 3), 3);
+        x.set(1, 2, 25);
+        x.row(0, 1, 40);
+        x.row(2, 1, 40);
+        Check.due("the rows beside it leave it", item(x, 1, 2), 25);
+        for (int row = 0; row < 8; row++) {
+            x.row(row, row % 3, row);
+        }
+        Check.due("eight rows", x.count(0), 8);
+        for (int row = 0; row < 8; row++) {
+            Check.due("drop(" + row + ")", x.drop(row), row);
+            Check.due("rows behind it", x.count(0), 7 - row);
+        }
+    }
+
     private static void set() {
         SidelessTown x = new SidelessTown();
         x.row(2, 2, 3);
@@ -78,6 +128,30 @@ final class RowsTest {
         Check.due("short 65536 + 7", x.set(1, 0, 65543), 7);
         Check.due("short 200", x.set(1, 0, 200), 200);
         Check.due("int -1", x.set(2, 0, -1), -1);
+    }
+
+    private static void lanesEnds() {
+        SidelessTown x = new SidelessTown();
+        int[][] kept = {
+            {127, 127, 127, 127}, {128, -128, 128, 128}, {-128, -128, -128, -128}, {255, -1, 255, 255},
+            {-256, 0, -256, -256}, {-257, -1, -257, -257}, {32767, -1, 32767, 32767}, {32768, 0, -32768, 32768},
+            {-32768, 0, -32768, -32768}, {-32769, -1, 32767, -32769}, {65535, -1, -1, 65535},
+            {Integer.MAX_VALUE, -1, -1, Integer.MAX_VALUE}, {Integer.MIN_VALUE, 0, 0, Integer.MIN_VALUE},
+            {0x12348182, -126, -32382, 0x12348182}};
+        for (int lane = 0; lane <= 2; lane++) {
+            x.row(lane, lane, 2);
+            for (int[] k : kept) {
+                Check.due("lane " + lane + ": " + k[0], x.set(lane, 1, k[0]), k[lane + 1]);
+            }
+        }
+        x.row(0, 0, 2);
+        x.set(0, 0, 256 + 7);
+        Check.due("a byte, as it was kept", item(x, 0, 0), 7);
+        x.row(1, 1, 2);
+        x.set(1, 0, -65536 + 29);
+        Check.due("a short, as it was kept", item(x, 1, 0), 29);
+        x.set(1, 0, 256 + 7);
+        Check.due("a short beyond a byte", x.words(1, 0, 1), BAD);
     }
 
     private static void copy() {
@@ -121,6 +195,55 @@ final class RowsTest {
             x.words(0, to, 3);
             for (int i = 0; i < 3; i++) {
                 Check.due("as it was ahead, item " + i, x.word(i), 21 + i);
+            }
+        }
+    }
+
+    private static SidelessTown withMost() {
+        SidelessTown x = new SidelessTown();
+        x.row(3, 2, 40);
+        for (int i = 0; i < 40; i++) {
+            x.set(3, i, 20 + i % 10);
+        }
+        return x;
+    }
+
+    /** Of all 40 items: what lies beside those that are copied stays, from whichever side they come. */
+    private static void copyOfMost() {
+        int[][] copies = {{0, 0, 40}, {0, 1, 39}, {1, 0, 39}, {0, 40, 0}, {40, 40, 0}, {3, 8, 20}, {8, 3, 20}, {0, 20, 20},
+            {20, 0, 20}, {39, 0, 1}, {0, 39, 1}, {5, 6, 1}, {6, 5, 1}, {7, 7, 9}};
+        for (int[] c : copies) {
+            SidelessTown x = withMost();
+            String call = "copy(3, " + c[0] + ", 3, " + c[1] + ", " + c[2] + ")";
+            Check.due(call, x.copy(3, c[0], 3, c[1], c[2]), c[2]);
+            for (int i = 0; i < 40; i++) {
+                int from = i >= c[1] && i < c[1] + c[2] ? i - c[1] + c[0] : i;
+                Check.due(call + ": item " + i, item(x, 3, i), 20 + from % 10);
+            }
+        }
+        SidelessTown x = withMost();
+        Check.due("41 of 40", x.copy(3, 0, 3, 0, 41), PLACE);
+        Check.due("40 from 1 on", x.copy(3, 1, 3, 0, 40), PLACE);
+        Check.due("40 to 1 on", x.copy(3, 0, 3, 1, 40), PLACE);
+        Check.due("1 from 40 on", x.copy(3, 40, 3, 0, 1), PLACE);
+        Check.due("none from 41 on", x.copy(3, 41, 3, 0, 0), PLACE);
+    }
+
+    private static void copyInEachLane() {
+        for (int lane = 0; lane <= 2; lane++) {
+            SidelessTown x = new SidelessTown();
+            x.row(0, lane, 4);
+            x.row(7, lane, 6);
+            for (int i = 0; i < 4; i++) {
+                x.set(0, i, 21 + i);
+            }
+            Check.due("copy(0, 1, 7, 3, 2)", x.copy(0, 1, 7, 3, 2), 2);
+            int[] want = {0, 0, 0, 22, 23, 0};
+            for (int i = 0; i < 6; i++) {
+                Check.due("lane " + lane + ": item " + i + " of b", item(x, 7, i), want[i]);
+            }
+            for (int i = 0; i < 4; i++) {
+                Check.due("lane " + lane + ": item " + i + " of a", item(x, 0, i), 21 + i);
             }
         }
     }

@@ -6,7 +6,9 @@ final class WalksTest {
         + "corner 5 6;street 0 1;street 0 2;street 0 3;street 0 4;street 0 5;street 1 6;street 6 2;street 5 1;";
 
     public static void main(String[] args) {
+        withoutSaying();
         upAndDown();
+        sixStreets();
         marks();
         onAndBack();
         hands();
@@ -14,8 +16,12 @@ final class WalksTest {
         takes();
         parts();
         lost();
+        lostInAllWays();
         meet();
+        meetLate();
         soon();
+        soonByOneWord();
+        soonLate();
         wrongNumbers();
         Check.end();
     }
@@ -37,6 +43,47 @@ final class WalksTest {
             Check.due(saying + " raw fails, image " + image, x.walk(from, image, 1, 1), failing[image]);
         }
         Check.due(saying + " raw from " + from + " parts", x.parts(from, 1), parting);
+    }
+
+    private static void withoutSaying() {
+        SidelessTown x = Check.withTown(STAR);
+        for (int c = 0; c < 7; c++) {
+            for (int raw = 0; raw <= 1; raw++) {
+                for (int image = 0; image <= 1; image++) {
+                    Check.due("no saying: he stays at " + c, x.walk(c, image, raw, 0), c);
+                    Check.due("no saying: none fails", x.walk(c, image, raw, 1), NONE);
+                }
+                Check.due("no saying: no part", x.parts(c, raw), NONE);
+            }
+            Check.due("no saying: none is lost", x.lost(c), 0);
+            Check.due("no saying: at one corner", x.meet(c, c, 0), 0);
+            Check.due("no saying: at two corners", x.meet(c, (c + 1) % 7, 0), NONE);
+        }
+        Check.due("no saying is needed", x.meet(1, 2, 1), 1);
+    }
+
+    /** Six streets at 0; what is behind them, at 1, is not looked at. */
+    private static void sixStreets() {
+        String six = "street 1 7;street 0 1;street 0 2;street 0 3;street 0 4;street 0 5;street 0 6;";
+        SidelessTown x = Check.withTown("corner 5 0 well;corner 6 1;corner 7 2;corner 8 3;corner 4 4;corner 3 5;"
+            + "corner 2 6;corner 99 7;" + six);
+        leads(x, "up;", 0, 3, NONE);
+        leads(x, "down;", 0, 6, NONE);
+        leads(x, "mark 6;", 0, 6, NONE);
+        leads(x, "mark 7;", 0, 0, 0);
+        leads(x, "mark 0 on;", 2, 5, NONE);
+        leads(x, "mark 0 on;", 6, 3, NONE);
+        leads(x, "mark 0 take hand;", 6, 1, NONE);
+        leads(x, "mark 0 take other;", 1, 6, NONE);
+        leads(x, "mark 0 take hand;", 3, 4, NONE);
+        leadsRaw(x, "mark 0 hand;", 6, new int[] {1, 5}, new int[] {NONE, NONE}, 1);
+        leadsRaw(x, "mark 0 other;", 1, new int[] {6, 2}, new int[] {NONE, NONE}, 1);
+        leadsRaw(x, "mark 0 on;", 1, new int[] {4, 4}, new int[] {NONE, NONE}, NONE);
+        x.mark(1, 8);
+        leads(x, "mark 1;", 0, 0, 0);
+        leads(x, "mark 8;", 0, 1, NONE);
+        Check.town(x, "corner 50 0;corner 60 1;corner 70 2;corner 80 3;corner 40 4;corner 30 5;corner 20 6;corner 0 7;" + six);
+        leads(x, "down;", 0, 6, NONE);
     }
 
     private static void upAndDown() {
@@ -165,6 +212,33 @@ final class WalksTest {
         Check.due("lost(2): mark 1 alone fails; mark 6 left out ends at 1", x.lost(2), 1 << 1);
     }
 
+    /** Each of twelve words left out of a saying, its first, its last, the only one that fails. */
+    private static void lostInAllWays() {
+        SidelessTown x = Check.withTown("corner 1 0;corner 2 1;corner 3 2;corner 4 3;corner 5 4;corner 6 5;corner 7 6;"
+            + "corner 8 7;street 0 1;street 1 2;street 2 3;street 3 4;street 4 5;street 5 6;street 6 7;");
+        Check.say(x, "up up up;");
+        Check.due("one step less", x.lost(0), 1 << 2);
+        Check.due("one step less, where all fail", x.lost(5), 1 << 7);
+        Check.due("two steps too many", x.lost(6), 0);
+        Check.say(x, "up up down up mark 4;");
+        // Left out: up: 1 0 1 and mark 4 fails; so without the second; down: 3, mark 4: 4; up: 1, fails; mark 4: 2.
+        Check.due("four ways", x.lost(0), 1 << 4 | 1 << 2);
+        Check.say(x, "mark 9 up;");
+        Check.due("the word that fails left out", x.lost(6), 1 << 7);
+        Check.say(x, "up mark 9;");
+        Check.due("the last word that fails left out", x.lost(6), 1 << 7);
+        Check.say(x, "mark 9 mark 9;");
+        Check.due("another fails", x.lost(6), 0);
+        Check.say(x, "up down ".repeat(6) + ";");
+        // An up left out: down fails from 0, or leads from 0 behind it; a down left out: two ups, ends at 1.
+        Check.due("twelve words from 0", x.lost(0), 1 << 1);
+        Check.due("twelve words from 1", x.lost(1), 1 << 0 | 1 << 2);
+        Check.due("twelve words from 7, without the first up", x.lost(7), 1 << 6);
+        Check.town(x, STAR);
+        Check.say(x, "mark 0 hand;");
+        Check.due("not raw: no hand without take", x.lost(3), 1);
+    }
+
     private static void meet() {
         SidelessTown x = Check.withTown(STAR);
         Check.due("without a saying", x.meet(1, 2, 0), NONE);
@@ -196,6 +270,39 @@ final class WalksTest {
         Check.due("one fails where the other comes", x.meet(1, 2, 0), NONE);
     }
 
+    /** From 0 and 3 three ups lead to 6, from which one more leads to 7. */
+    private static final String FORK = "corner 1 0;corner 2 0;corner 3 0;corner 1 0;corner 2 0;corner 3 0;corner 4 0;"
+        + "corner 5 0;street 0 1;street 1 2;street 2 6;street 3 4;street 4 5;street 5 6;street 6 7;";
+
+    private static void meetLate() {
+        SidelessTown x = Check.withTown(FORK);
+        Check.say(x, "up up up up;");
+        Check.due("behind three words of four", x.meet(0, 3, 0), 3);
+        Check.due("behind two words of four", x.meet(1, 4, 0), 2);
+        Check.say(x, "up up up;");
+        Check.due("behind the last word", x.meet(3, 0, 0), 3);
+        Check.due("behind two of three", x.meet(4, 1, 0), 2);
+        Check.due("one comes where the other was", x.meet(0, 1, 0), NONE);
+        Check.say(x, "up up;");
+        Check.due("the saying ends too soon", x.meet(0, 3, 0), NONE);
+        Check.say(x, "up up mark 9;");
+        Check.due("one that fails behind it does not matter", x.meet(1, 4, 0), 2);
+        Check.say(x, "up mark 9 up;");
+        Check.due("both fail ahead of it", x.meet(1, 4, 0), NONE);
+        Check.say(x, "up down up up;");
+        Check.due("on another way", x.meet(1, 4, 0), 4);
+        Check.town(x, "corner 1 0;corner 2 1;corner 3 0;corner 2 2;corner 1 3;"
+            + "street 0 1;street 1 2;street 2 3;street 3 4;");
+        Check.say(x, "up hand;");
+        Check.due("not raw: both fail without a hand", x.meet(0, 4, 0), NONE);
+        Check.say(x, "up on;");
+        Check.due("halfway round", x.meet(0, 4, 0), 2);
+        Check.town(x, "corner 1 0;corner 2 1 well;corner 3 0;corner 2 2 well;corner 1 3;"
+            + "street 0 1;street 1 2;street 2 3;street 3 4;");
+        Check.say(x, "up take hand;");
+        Check.due("each with a hand", x.meet(0, 4, 0), 3);
+    }
+
     private static void soon() {
         SidelessTown x = Check.withTown(STAR);
         Check.due("at one corner already", x.meet(4, 4, 1), 0);
@@ -218,6 +325,38 @@ final class WalksTest {
         Check.town(x, "corner 1 0;corner 2 0;corner 3 0;corner 4 0;corner 9 0;"
             + "street 0 1;street 1 4;street 2 3;street 3 4;");
         Check.due("two words up", x.meet(0, 2, 1), 2);
+    }
+
+    /** 1 and 2 beside 0; each has another of the same mark and height as 0, or not, so that one word alone leads. */
+    private static void soonByOneWord() {
+        String tail = "street 0 1;street 0 2;street 1 3;street 2 4;";
+        SidelessTown x = Check.withTown("corner 9 0;corner 5 1;corner 5 1;corner 5 0;corner 5 0;" + tail);
+        Check.due("by up", x.meet(1, 2, 1), 1);
+        Check.town(x, "corner 1 0;corner 5 1;corner 5 1;corner 5 0;corner 5 0;" + tail);
+        Check.due("by down", x.meet(1, 2, 1), 1);
+        Check.town(x, "corner 5 0;corner 5 1;corner 5 1;corner 5 0;corner 5 0;" + tail);
+        Check.due("by none", x.meet(1, 2, 1), NONE);
+        for (int m = 0; m <= 9; m++) {
+            x.mark(0, m);
+            Check.due("by mark " + m, x.meet(1, 2, 1), m == 0 ? NONE : 1);
+        }
+        x.mark(3, 9);
+        Check.due("mark 9 for one of them leads to two", x.meet(1, 2, 1), NONE);
+        x.mark(3, 8);
+        x.mark(4, 8);
+        x.mark(0, 0);
+        Check.due("by mark 0", x.meet(1, 2, 1), 1);
+    }
+
+    private static void soonLate() {
+        SidelessTown x = Check.withTown(FORK);
+        Check.due("three words", x.meet(0, 3, 1), 3);
+        Check.due("three words, the other way round", x.meet(3, 0, 1), 3);
+        Check.due("two words", x.meet(1, 4, 1), 2);
+        Check.due("one word", x.meet(5, 2, 1), 1);
+        Check.due("no words", x.meet(7, 7, 1), 0);
+        Check.due("the top has no up, and no mark of its own", x.meet(6, 7, 1), NONE);
+        Check.due("no saying is walked", x.count(4), 0);
     }
 
     private static void wrongNumbers() {

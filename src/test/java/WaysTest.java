@@ -5,12 +5,18 @@ final class WaysTest {
     public static void main(String[] args) {
         apart();
         apartByWhatFollows();
+        apartByOneWord();
         shortest();
+        shortestOfMost();
+        shortestByBack();
         shortestWithHands();
         firstOfSeveral();
         soonest();
         turns();
+        turnsOfCornersWithoutStreets();
         images();
+        ordersOfAllParts();
+        askedInTurn();
         ends();
         wrongNumbers();
         Check.end();
@@ -62,6 +68,34 @@ final class WaysTest {
         classes(x, 0, 1, 2, 3, 4, 5);
     }
 
+    /** 0 and 1 are told apart by a single word; what else is asked of them fails from both, or leads to alike ones. */
+    private static void apartByOneWord() {
+        String pairs = "street 0 2;street 0 3;street 1 4;street 1 5;";
+        SidelessTown x = Check.withTown("corner 5 1;corner 5 1;corner 9 6;corner 8 6;corner 9 6;corner 9 6;" + pairs);
+        classes(x, 0, 1, 2, 2, 3, 3);
+        Check.town(x, "corner 5 1;corner 5 1;corner 1 6;corner 2 6;corner 1 6;corner 1 6;" + pairs);
+        classes(x, 0, 1, 2, 2, 3, 3);
+        Check.town(x, "corner 5 1;corner 5 1;corner 9 6;corner 9 6;corner 9 6;corner 9 6;" + pairs);
+        classes(x, 0, 0, 1, 1, 1, 1);
+        Check.town(x, "corner 5 1;corner 5 1;corner 5 0;corner 5 0;street 0 2;");
+        for (int m = 0; m <= 9; m++) {
+            x.mark(2, m);
+            x.mark(3, m);
+            // From 0 mark m leads to 2, from 1 to none.
+            classes(x, m == 1 ? new int[] {0, 1, 0, 1} : new int[] {0, 1, 2, 3});
+        }
+        Check.town(x, "corner 5 1;corner 5 1;corner 5 2;corner 5 3;street 0 2;street 1 3;");
+        // By mark 2 and by mark 3.
+        classes(x, 0, 1, 2, 3);
+        x.mark(3, 2);
+        classes(x, 0, 0, 1, 1);
+        Check.town(x, "corner 5 1;corner 50 1 well;corner 99 1;street 0 1;");
+        // Heights and wells do not matter but by up and down.
+        classes(x, 0, 1, 2);
+        Check.town(x, "corner 5 1;corner 50 1 well;corner 99 1;corner 1 1;street 0 1;");
+        classes(x, 0, 1, 2, 2);
+    }
+
     private static void way(SidelessTown x, int a, int b, int hands, int... words) {
         String call = "shortest(" + a + ", " + b + ", " + hands + ", ";
         Check.due(call + "-1)", x.shortest(a, b, hands, -1), words.length);
@@ -94,6 +128,54 @@ final class WaysTest {
         way(x, 0, 2, 0, 0, 1, 0, 3);
         noWay(x, 0, 5, 0);
         noWay(x, 5, 0, 1);
+    }
+
+    /** Up and down a path of eight corners all marks alike: by whatever corner he came, he is not taken for another. */
+    private static void shortestOfMost() {
+        StringBuilder path = new StringBuilder();
+        for (int c = 0; c < 8; c++) {
+            path.append("corner ").append(c).append(" 0;");
+        }
+        for (int c = 0; c < 7; c++) {
+            path.append("street ").append(c).append(" ").append(c + 1).append(";");
+        }
+        SidelessTown x = Check.withTown(path.toString());
+        for (int a = 0; a < 8; a++) {
+            for (int b = 0; b < 8; b++) {
+                int[] words = new int[Math.abs(a - b)];
+                java.util.Arrays.fill(words, a < b ? 0 : 1);
+                way(x, a, b, 0, words);
+                way(x, a, b, 1, words);
+            }
+        }
+        Check.due("k at its most", x.shortest(0, 7, 0, Integer.MAX_VALUE), NONE);
+        // Halfway round 0 from 6 is 3; from there a hand that is taken leads to both sides, as on goes ahead of take.
+        Check.town(x, "corner 9 0 well;corner 5 1;corner 5 1;corner 5 1;corner 5 1;corner 5 1;corner 1 3;"
+            + "street 0 6;street 0 1;street 0 2;street 0 3;street 0 4;street 0 5;");
+        way(x, 6, 3, 1, 0, 3);
+        way(x, 6, 2, 1, 0, 3, 0, 7, 6);
+        way(x, 6, 4, 1, 0, 3, 0, 7, 5);
+        way(x, 6, 3, 0, 0, 3);
+        noWay(x, 6, 2, 0);
+        // Where he took the hand does not matter, only that he has it: at a well behind him.
+        Check.town(x, "corner 5 0;corner 6 1 well;corner 5 2;corner 5 2;corner 5 2;"
+            + "street 0 1;street 0 2;street 0 3;street 0 4;");
+        way(x, 0, 2, 1, 0, 7, 1, 5);
+        way(x, 0, 4, 1, 0, 7, 1, 6);
+        way(x, 0, 3, 1, 0, 1, 3);
+        way(x, 1, 2, 1, 7, 1, 5);
+    }
+
+    /** From 1 back alone leads to 0: 5 is like it. From 0, by which he came again, 3 lies halfway round. */
+    private static void shortestByBack() {
+        SidelessTown x = Check.withTown("corner 5 0;corner 5 1;corner 5 2;corner 5 2;corner 5 2;corner 5 0;"
+            + "street 0 1;street 0 2;street 0 3;street 0 4;street 1 5;");
+        way(x, 0, 3, 0, 21, 4, 3);
+        way(x, 0, 3, 1, 21, 4, 3);
+        noWay(x, 0, 2, 0);
+        way(x, 0, 5, 0, 21, 3);
+        way(x, 2, 4, 0, 20, 3);
+        noWay(x, 1, 0, 1);
     }
 
     private static void shortestWithHands() {
@@ -194,6 +276,78 @@ final class WaysTest {
         Check.town(x, "corner 1 1;corner 1 1;corner 1 1;corner 1 1;street 0 3;");
         layings(x, 0, 4, new int[] {0, 1, 2, 3}, new int[] {0, 2, 1, 3}, new int[] {3, 1, 2, 0},
             new int[] {3, 2, 1, 0});
+    }
+
+    private static void turnsOfCornersWithoutStreets() {
+        SidelessTown x = Check.withTown("corner 1 1;corner 1 1;corner 1 1;corner 1 1;street 2 3;");
+        for (int what = 0; what <= 1; what++) {
+            layings(x, what, 4, new int[] {0, 1, 2, 3}, new int[] {0, 1, 3, 2}, new int[] {1, 0, 2, 3},
+                new int[] {1, 0, 3, 2});
+        }
+        Check.town(x, "corner 1 1;corner 1 1;corner 2 1;corner 2 1;corner 1 2;corner 1 1 well;street 2 3;");
+        for (int what = 0; what <= 1; what++) {
+            layings(x, what, 6, new int[] {0, 1, 2, 3, 4, 5}, new int[] {0, 1, 3, 2, 4, 5},
+                new int[] {1, 0, 2, 3, 4, 5}, new int[] {1, 0, 3, 2, 4, 5});
+        }
+        Check.town(x, "corner 1 1;".repeat(8) + "street 6 7;");
+        Check.due("six that change places, two that do", x.laid(0, -1, 7), 1440);
+        Check.due("the last of them, at 0", x.laid(0, 1439, 0), 5);
+        Check.due("the last of them, at 6", x.laid(0, 1439, 6), 7);
+        Check.due("none behind it", x.laid(0, 1440, 0), NONE);
+        Check.town(x, "corner 1 1;".repeat(8) + "street 0 1;street 2 3;street 4 5;street 6 7;");
+        Check.due("four pairs", x.laid(0, -1, 0), 24 * 16);
+        Check.due("four pairs, the last, at 0", x.laid(1, 383, 0), 7);
+        Check.due("four pairs, the last, at 1", x.laid(1, 383, 1), 6);
+        Check.due("four pairs, the last, at 7", x.laid(1, 383, 7), 0);
+    }
+
+    /** The order about the last corner counts as that about the first, that of a part of the town as that of another. */
+    private static void ordersOfAllParts() {
+        SidelessTown x = Check.withTown("corner 5 1;corner 5 1;corner 5 1;corner 5 0;street 3 0;street 3 1;street 3 2;");
+        layings(x, 0, 4, new int[] {0, 1, 2, 3}, new int[] {1, 2, 0, 3}, new int[] {2, 0, 1, 3});
+        layings(x, 1, 4, new int[] {0, 2, 1, 3}, new int[] {1, 0, 2, 3}, new int[] {2, 1, 0, 3});
+        Check.town(x, "corner 1 1;corner 1 1;corner 5 5;corner 2 1;corner 2 2;corner 2 3;"
+            + "street 0 1;street 2 3;street 2 4;street 2 5;");
+        layings(x, 0, 6, new int[] {0, 1, 2, 3, 4, 5}, new int[] {1, 0, 2, 3, 4, 5});
+        layings(x, 1, 6);
+        Check.due("ends() without images", x.ends(), NONE);
+        x.mark(5, 2);
+        layings(x, 1, 6, new int[] {0, 1, 2, 3, 5, 4}, new int[] {1, 0, 2, 3, 5, 4});
+        Check.due("ends() of the other part", x.ends(), 4);
+        Check.town(x, "corner 5 0;corner 5 0;corner 5 1;corner 5 2;corner 5 3;corner 5 4;corner 5 1;corner 5 3;"
+            + "street 0 2;street 0 3;street 0 4;street 0 5;street 1 6;street 1 3;street 1 7;street 1 5;");
+        // About 0 and 1 lie marks 1 2 3 4; 3 and 5 are beside both, so that they have two streets, and no order.
+        layings(x, 0, 8, new int[] {0, 1, 2, 3, 4, 5, 6, 7}, new int[] {1, 0, 6, 3, 7, 5, 2, 4});
+        layings(x, 1, 8);
+    }
+
+    /** What was asked ahead of a question does not matter to it, nor how the town came to be as it is. */
+    private static void askedInTurn() {
+        SidelessTown x = Check.withTown(WHEEL);
+        for (int i = 0; i < 3; i++) {
+            Check.due("the " + i + "-th image at 3", x.laid(1, i, 3), new int[] {2, 3, 1}[i]);
+            Check.due("ends() behind it", x.ends(), NONE);
+            Check.due("the " + i + "-th turn at 1", x.laid(0, i, 1), i + 1);
+            Check.due("images behind it", x.laid(1, -1, 0), 3);
+        }
+        x.mark(1, 4);
+        x.laid(1, 0, 3);
+        Check.due("ends() with a mark", x.ends(), 2);
+        x.image(0);
+        x.mark(2, 5);
+        Check.due("ends() with two marks", x.ends(), NONE);
+        Check.due("no images", x.laid(1, -1, 0), 0);
+        Check.due("one turn", x.laid(0, -1, 0), 1);
+        x.restore(0);
+        Check.due("ends() of what was kept", x.ends(), 2);
+        Check.town(x, "corner 1 1;corner 1 1;street 0 1;");
+        Check.due("ends() of another town: an image leaves both", x.ends(), NONE);
+        Check.due("its images", x.laid(1, -1, 1), 2);
+        Check.town(x, "corner 100 1;");
+        Check.due("a town with a fault is none", x.laid(0, -1, 1), 2);
+        x.shortest(0, 1, 0, -1);
+        Check.due("soonest() behind shortest()", x.soonest(0, 0), NONE);
+        Check.due("shortest() behind it", x.shortest(1, 0, 1, 0), 21);
     }
 
     private static void images() {
